@@ -15,6 +15,8 @@ public final class Gaitwright {
     private static final int BEST_GRIP = 9;
     private static final int FARTHEST_OUT = 5;
     private static final int LONGEST_REACH = 6;
+    // Differences that make 9 together have squares of 41 together at least, which is more than 6 times 6.
+    private static final int FARTHEST_REACHED = 8;
     private static final int MOST_LEGS = 6;
     private static final int MOST_PHASES = 8;
     private static final int MOST_WALKED = 20;
@@ -354,7 +356,6 @@ public final class Gaitwright {
         energy -= RISE_COST;
         stands = true;
         damage.forget();
-        damage.beginAct();
         for (int leg = 0; leg < frame.legs; leg++) {
             int hip = pointAt(stance.hipX(leg), stance.hipY(leg));
             if (hip != NONE && !stance.isTaken(hip, NONE)) {
@@ -851,7 +852,10 @@ public final class Gaitwright {
             return true;
         }
 
-        /** The foothold of a leg. */
+        /**
+         * The foothold of a leg, by rings of the same far round the hip. As no far in reach comes to 10,
+         * points of the same cost are in one ring, which is gone through by y, then x.
+         */
         int bestPoint(int leg) {
             int level = level(leg);
             int hipX = hipX(leg);
@@ -859,16 +863,17 @@ public final class Gaitwright {
             int reach = frame.reach.at(leg);
             int best = NONE;
             int least = Integer.MAX_VALUE;
-            for (int y = Math.max(0, hipY - reach); y <= Math.min(SIDE - 1, hipY + reach); y++) {
-                for (int x = Math.max(0, hipX - reach); x <= Math.min(SIDE - 1, hipX + reach); x++) {
-                    int wayX = Math.abs(x - hipX);
-                    int wayY = Math.abs(y - hipY);
-                    int climb = Math.abs(land.mapped.at(SIDE * y + x) - level);
-                    int cost = 10 * climb + wayX + wayY;
-                    if (cost < least && climb <= MOST_CLIMB && wayX * wayX + wayY * wayY <= reach * reach
-                            && !isTaken(SIDE * y + x, leg)) {
-                        least = cost;
-                        best = SIDE * y + x;
+            for (int far = 0; far <= FARTHEST_REACHED && far < least; far++) {
+                for (int wayY = -far; wayY <= far; wayY++) {
+                    int wayX = far - Math.abs(wayY);
+                    for (int side = -1; side <= 1; side += 2) {
+                        int point = pointAt(hipX + side * wayX, hipY + wayY);
+                        int climb = Math.abs(land.mapped.at(point) - level);
+                        if (point != NONE && wayX * wayX + wayY * wayY <= reach * reach && climb <= MOST_CLIMB
+                                && 10 * climb + far < least && !isTaken(point, leg)) {
+                            least = 10 * climb + far;
+                            best = point;
+                        }
                     }
                 }
             }
@@ -1038,6 +1043,7 @@ public final class Gaitwright {
             count = 0;
             firstWhat = 0;
             firstPoint = NONE;
+            firstOfAct = 0;
         }
 
         void beginAct() {

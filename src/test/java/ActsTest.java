@@ -39,6 +39,11 @@ public final class ActsTest {
         Check.isState("beyond the edge", () -> g.load(11, 4, 0));
         Check.isState("beyond the edge, in y", () -> g.load(20, 0, -4));
         Check.due("changes nothing", before, Build.sketch(g));
+        Gaitwright aslant = Build.standing(2, 3);
+        aslant.load(20, -1, 2);
+        String asLoaded = Build.sketch(aslant);
+        Check.isState("beyond the edge", () -> aslant.load(20, 5, 4));
+        Check.due("the same load at the same place", asLoaded, Build.sketch(aslant));
         Check.due("none", 0, g.load(0, -5, -5));
         Check.due("the most", 0, g.load(20, 3, -3));
         int[][] wrong = {{-1, 0, 0}, {21, 0, 0}, {1, -6, 0}, {1, 6, 0}, {1, 0, -6}, {1, 0, 6}, {20, 6, 5}};

@@ -246,7 +246,15 @@ public final class AskedTest {
         Check.due("3 lower is none", 290, g.foothold(4));
         // Of leg 0, whose point is mapped 3, it is one beside that with the least y.
         Check.due("without its own foot the level is 0", 148, g.foothold(0));
-        // Edges of the ground: a hip beyond all points, or with points on one side of it alone.
+        Gaitwright two = Build.withHips(1, 0, 0);
+        two.chart(10, 10, 3);
+        two.chart(10, 9, 2);
+        two.chart(9, 10, 3);
+        two.chart(11, 10, 3);
+        two.chart(10, 11, 3);
+        Check.due("2 higher than the level is one", 190, two.foothold(0));
+        two.chart(10, 9, 3);
+        Check.due("3 higher is none", -1, two.foothold(0));
         Gaitwright far = Build.withHips(6, 5, 5, -5, -5);
         Check.due("hip", 315, far.foothold(0));
         Check.due("hip", 105, far.foothold(1));
@@ -275,14 +283,26 @@ public final class AskedTest {
         h.ground(12, 8, 0, 4, 9);
         h.rise();
         Check.due("by turns two sink", 2, h.wouldLift(0));
+        h.shift(-1, 1);
+        Check.due("from another place as well", 2, h.wouldLift(0));
+        h.shift(1, -1);
         Check.due("it stands all the same", 1, h.machine(2));
         Check.due("none is a fall yet", 0, h.machine(9));
         Check.due("none is broken yet", 0, h.machine(8));
     }
 
+    private static boolean isAnewFirst = false;
+
+    /** Asks both in turns the one and the other first, so that neither can rest on the other. */
     private static void bothFewest(String what, int due, Gaitwright g, int x, int y) {
+        isAnewFirst = !isAnewFirst;
+        if (isAnewFirst) {
+            Check.due(what + ", anew", due, g.fewestAnew(x, y));
+        }
         Check.due(what, due, g.fewest(x, y));
-        Check.due(what + ", anew", due, g.fewestAnew(x, y));
+        if (!isAnewFirst) {
+            Check.due(what + ", anew", due, g.fewestAnew(x, y));
+        }
     }
 
     private static void fewest() {

@@ -31,7 +31,7 @@ public final class RandomRunsTest {
     }
 
     public static void main(String[] args) {
-        int runs = 400;
+        int runs = args.length > 0 && args[0].matches("[0-9]{1,6}") ? Integer.parseInt(args[0]) : 400;
         Check.part("random runs");
         for (int run = 0; run < runs; run++) {
             RandomRunsTest test = new RandomRunsTest(run);
