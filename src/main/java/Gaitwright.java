@@ -964,8 +964,8 @@ public final class Gaitwright {
                 int from = corners.at(i);
                 int to = corners.at(i + 1);
                 long made = edgeByWay(from, to, x, y, scale);
-                long along = squareOfEdge(from, to);
-                float square = (float) (made * made) / (float) (along * scale * scale);
+                long along = (long) squareOfEdge(from, to) * scale * scale;
+                float square = along <= 0 ? 0f : (float) (made * made) / (float) along;
                 if (i == 0 || square < least) {
                     least = square;
                 }
@@ -1126,7 +1126,9 @@ public final class Gaitwright {
 
         void start(Stance stance, int point) {
             goal = point;
-            behind[0].copy(stance);
+            if (behind.length > 0) {
+                behind[0].copy(stance);
+            }
         }
 
         /** How far the body is from the goal behind so many moves. */
