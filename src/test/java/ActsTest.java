@@ -570,23 +570,10 @@ public final class ActsTest {
         Check.due("the foot is up", 0, far.foot(4, 0));
     }
 
-    /** A machine with four feet across its way, and one behind, that walks one point a gait of five phases. */
-    private static Gaitwright walker(int wayX, int wayY) {
-        int acrossX = wayY;
-        int acrossY = wayX;
-        Gaitwright g = Build.withHips(3, -2 * acrossX, -2 * acrossY, 2 * acrossX, 2 * acrossY,
-                -acrossX, -acrossY, acrossX, acrossY, -2 * wayX, -2 * wayY);
-        g.rise();
-        for (int leg = 0; leg < 5; leg++) {
-            g.phase(leg, wayX, wayY, leg == 1 ? wayX : 0, leg == 1 ? wayY : 0);
-        }
-        return g;
-    }
-
     private static void walkToTheEdges() {
         Check.part("promises 12 and 13, the edges");
         for (int[] way : new int[][] {{1, 0}, {-1, 0}, {0, 1}, {0, -1}}) {
-            Gaitwright g = walker(way[0], way[1]);
+            Gaitwright g = Build.walker(way[0], way[1]);
             int gaits = way[0] + way[1] > 0 ? 9 : 10;
             for (int i = 0; i < gaits; i++) {
                 Check.due("a gait", 5, g.walk(5));

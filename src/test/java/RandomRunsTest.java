@@ -52,7 +52,11 @@ public final class RandomRunsTest {
         }
     }
 
+    /** Compares one call; there are no more behind the 512th, from where on the document leaves all free. */
     private void same(String call, Check.Call ofProgram, Check.Call ofModel) {
+        if (told.size() >= CALLS) {
+            return;
+        }
         String got = Check.answerOf(ofProgram);
         String want = Check.answerOf(ofModel);
         told.add(call + " -> " + got);
