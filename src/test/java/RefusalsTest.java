@@ -19,7 +19,10 @@ public final class RefusalsTest {
         riseWithoutEnergy();
         riseRefused();
         riseByTheMap();
+        groundUnderFeet();
+        legsAsItStands();
         lyingAllows();
+        poorAllows();
         Check.end();
     }
 
@@ -349,6 +352,42 @@ public final class RefusalsTest {
         }
     }
 
+    private static void groundUnderFeet() {
+        Check.part("ground, under feet");
+        for (int i = 0; i < 4; i++) {
+            int leg = i;
+            int x = 10 + 2 * Build.sideX(leg);
+            int y = 10 + 2 * Build.sideY(leg);
+            Scene four = RefusalsTest::four;
+            refused("foot " + leg + " is down there", four, g -> g.ground(x, y, 9, 0, 0));
+            refused("the same as it is", four, g -> g.ground(x, y, 0, 99, 9));
+            done("beside it in x", four, 0, g -> g.ground(x + 1, y, 9, 0, 0));
+            done("beside it in y", four, 0, g -> g.ground(x, y - 1, 9, 0, 0));
+            done("the map there", four, 0, g -> g.chart(x, y, 9));
+            done("as the foot is up", four.with(g -> g.lift(leg)), 0, g -> g.ground(x, y, 9, 0, 0));
+            done("as the machine lies", RefusalsTest::fourLying, 0, g -> g.ground(x, y, 9, 0, 0));
+        }
+    }
+
+    private static void legsAsItStands() {
+        Check.part("leg, as it stands");
+        Scene one = () -> {
+            Gaitwright g = Build.withHips(3, 0, 0);
+            g.ground(10, 10, 0, 10, 9);
+            return g;
+        };
+        Check.due("before it rises", 1, one.make().leg(1, 0, 3));
+        refused("risen", one.with(Gaitwright::rise), g -> g.leg(1, 0, 3));
+        Scene fallen = one.with(Gaitwright::rise).with(g -> g.load(1, 0, 0));
+        Check.due("fallen", 0, fallen.make().machine(2));
+        Gaitwright g = fallen.make();
+        Check.due("fallen, a second", 1, g.leg(1, 0, 3));
+        Check.due("its foot is up", 0, g.foot(1, 0));
+        Check.due("how many", 2, g.machine(10));
+        Check.due("one is no more than that", 1, fallen.make().machine(10));
+        Check.due("11 by 2 is 6, which both hold", 2, g.rise());
+    }
+
     /** What is told, and what is asked, stands open to a machine that lies; of the acts rising and loading. */
     private static void lyingAllows() {
         Check.part("lying");
@@ -363,5 +402,21 @@ public final class RefusalsTest {
         Check.due("the first is next", 0, g.machine(11));
         Check.due("halt", 1, g.halt());
         Check.due("rise", 5, g.rise());
+    }
+
+    /** To tell costs nothing, nor does a load, nor to ask. */
+    private static void poorAllows() {
+        Check.part("without energy");
+        Gaitwright g = Build.poor(0);
+        Check.due("ground", 0, g.ground(3, 3, 1, 99, 9));
+        Check.due("chart", 0, g.chart(3, 3, 1));
+        Check.due("phase", 1, g.phase(4, 0, 0, 0, 0));
+        Check.due("walk does nothing", 0, g.walk(20));
+        Check.due("halt", 1, g.halt());
+        Check.due("load", 0, g.load(20, 1, 1));
+        Check.due("the foothold", 210, g.foothold(4));
+        Check.due("a plan", 2, g.fewest(9, 9));
+        Check.due("nothing is left", 0, g.machine(3));
+        Check.due("charge", 1, g.charge(1));
     }
 }
