@@ -11,6 +11,7 @@ public final class MachineEdgesTest {
         firstPoint();
         lastPoint();
         planToTheFirstPoint();
+        planFromTheFirstPoint();
         level();
         pressure();
         momentInSquare();
@@ -247,6 +248,11 @@ public final class MachineEdgesTest {
         Check.due("stable anew", true, g.isStableAnew());
         Check.due("would not lift", NONE, g.wouldLift(0));
         Check.isState("not stable without it", () -> g.lift(0));
+        Check.due("the others down as well", 0, g.place(5, 12, 12));
+        Check.due("the others down as well", 0, g.place(4, 8, 7));
+        Check.due("six are down", 6, g.machine(7));
+        Check.due("stable by that at the first point", true, g.isStable());
+        Check.due("stable by that at the first point, anew", true, g.isStableAnew());
     }
 
     private static void lastPoint() {
@@ -284,6 +290,28 @@ public final class MachineEdgesTest {
         Check.due("no foothold", NONE, g.foothold(0));
         Check.due("no step", NONE, g.fewest(7, 8));
         Check.due("no step, anew", NONE, g.fewestAnew(7, 8));
+    }
+
+    /** Foot 0, of a shorter reach, is at (0, 0): it has to step ahead of a second shift, if it may. */
+    private static void planFromTheFirstPoint() {
+        Check.part("a plan from the first point");
+        Gaitwright g = new Gaitwright();
+        for (int leg = 0; leg < 4; leg++) {
+            g.leg(5 * Build.sideX(leg), 5 * Build.sideY(leg), leg == 0 ? 5 : 6);
+        }
+        g.rise();
+        g.load(20, 3, 3);
+        g.shift(-1, -1);
+        g.shift(-1, -1);
+        g.lift(0);
+        Check.due("places", 0, g.place(0, 0, 0));
+        Check.due("one shift", 1, g.fewest(9, 8));
+        Check.due("a step, and two shifts", 3, g.fewest(10, 8));
+        Check.due("a step, and two shifts, anew", 3, g.fewestAnew(10, 8));
+        g.load(20, 0, 0);
+        Check.due("one shift", 1, g.fewest(9, 8));
+        Check.due("not stable without it", NONE, g.fewest(10, 8));
+        Check.due("not stable without it, anew", NONE, g.fewestAnew(10, 8));
     }
 
     private static void level() {
