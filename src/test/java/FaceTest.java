@@ -1,17 +1,13 @@
-import java.io.IOException;
 import java.lang.reflect.Constructor;
 import java.lang.reflect.Field;
 import java.lang.reflect.Method;
 import java.lang.reflect.Modifier;
-import java.nio.file.Files;
-import java.nio.file.Path;
 import java.util.Arrays;
 import java.util.Set;
 import java.util.TreeSet;
-import java.util.regex.Pattern;
 import java.util.stream.Collectors;
 
-/** The public face, and of the rules of the language those that can be seen of the class and of its text. */
+/** The public face, and that there is no more to be seen of the class. */
 public final class FaceTest {
     private static final String ARGUMENT = " throws IllegalArgumentException";
     private static final String INDEX = " throws IndexOutOfBoundsException";
@@ -42,12 +38,10 @@ public final class FaceTest {
         "int fall(int, int)" + INDEX + ", IllegalArgumentException",
     };
 
-    public static void main(String[] args) throws IOException {
+    public static void main(String[] args) {
         Check.part("the face");
-        face();
-        Check.part("the language");
-        shapes();
-        text(Files.readString(Path.of(args[0])));
+        methods();
+        members();
         Check.end();
     }
 
@@ -55,7 +49,7 @@ public final class FaceTest {
         return Arrays.stream(types).map(Class::getSimpleName).collect(Collectors.joining(", "));
     }
 
-    private static void face() {
+    private static void methods() {
         Set<String> found = new TreeSet<>();
         Set<String> publicNames = new TreeSet<>();
         for (Method m : Gaitwright.class.getDeclaredMethods()) {
@@ -72,6 +66,9 @@ public final class FaceTest {
             boolean isTwice = Modifier.isPrivate(m.getModifiers()) && publicNames.contains(m.getName());
             Check.due(m + " has a public method's name", false, isTwice);
         }
+    }
+
+    private static void members() {
         for (Field f : Gaitwright.class.getDeclaredFields()) {
             boolean isConstant = f.getName().equals("NONE");
             Check.due(f + " is private", !isConstant, Modifier.isPrivate(f.getModifiers()));
@@ -82,51 +79,5 @@ public final class FaceTest {
         Check.due("public", Modifier.PUBLIC, made[0].getModifiers());
         Check.due("public and final", Modifier.PUBLIC | Modifier.FINAL, Gaitwright.class.getModifiers());
         Check.due("no package", "", Gaitwright.class.getPackageName());
-    }
-
-    private static void shapes() {
-        Class<?>[] inside = Gaitwright.class.getDeclaredClasses();
-        Check.due("some twelve classes at most", true, inside.length < 12);
-        shape(Gaitwright.class);
-        for (Class<?> c : inside) {
-            Check.due(c + " is static", true, Modifier.isStatic(c.getModifiers()));
-            Check.due(c + " is shown", false, Modifier.isPublic(c.getModifiers()) || Modifier.isProtected(c.getModifiers()));
-            shape(c);
-        }
-    }
-
-    private static void shape(Class<?> c) {
-        long fields = 0;
-        for (Field f : c.getDeclaredFields()) {
-            boolean isStatic = Modifier.isStatic(f.getModifiers());
-            Check.due(f + " is static and may change", false, isStatic && !Modifier.isFinal(f.getModifiers()));
-            fields += isStatic ? 0 : 1;
-        }
-        Check.due(c + " has some twenty fields at most", true, fields <= 20);
-        for (Method m : c.getDeclaredMethods()) {
-            Check.due(m + " takes seven at most", true, m.getParameterCount() <= 7);
-        }
-    }
-
-    private static void text(String whole) {
-        String bare = whole.replaceAll("(?s)/\\*.*?\\*/", "").replaceAll("//[^\n]*", "").replaceAll("\"[^\"\n]*\"", "T");
-        for (String word : new String[] {"finally", "assert", "synchronized", "package", "Object", "\\w+Exact", "Float",
-            "Double", "System\\.(?!arraycopy)", "Random", "Thread", "NullPointerException", "ClassCastException",
-            "\\w*IndexOutOfBoundsException(?<!\\bIndexOutOfBoundsException)", "NegativeArraySizeException",
-            "ArrayStoreException", "catch \\((\\w+ \\| )*(Runtime)?Exception"}) {
-            Check.due("the word " + word, false, Pattern.compile("\\b" + word).matcher(bare).find());
-        }
-        Check.due("a lambda", false, bare.contains("->"));
-        Check.due("a method reference", false, bare.contains("::"));
-        Check.due("imports beside the library that there is", "", bare.lines().filter(l -> l.startsWith("import"))
-                .filter(l -> !l.matches("import java\\.util\\.(Arrays|ArrayList|List|Iterator|NoSuchElementException);"))
-                .collect(Collectors.joining(" ")));
-        if (bare.contains("class Row ")) {
-            Check.due("an array's index outside of Row and Planner", 0, bare.lines()
-                    .filter(l -> Pattern.compile("\\w\\[[^\\]]").matcher(l).find())
-                    .filter(l -> !l.contains("cells[") && !l.contains("behind[") && !l.contains("new "))
-                    .count());
-        }
-        Check.due("signs beyond 127", 0, whole.chars().filter(c -> c > 127).count());
     }
 }
